@@ -11,6 +11,9 @@ public final class OpTest {
         orderOfItems();
         itemsFurtherDown();
         meanings();
+        compoundItems(CountingRegex.CAT);
+        compoundItems(CountingRegex.ALT);
+        compoundOptions();
         nested();
         CHECK.finish();
     }
@@ -165,6 +168,49 @@ public final class OpTest {
                 fed(two(left, right, CountingRegex.ALT), CountingRegex.WHOLE, "11", "10");
             }
         }
+    }
+
+    /** Items of two leaves each, so that the first leaf of an item is not its last one. */
+    private static void compoundItems(int kind) {
+        CHECK.at("(0 1) and (2 3) by op " + kind);
+        CountingRegex x = new CountingRegex(12, 100);
+        pair(x, 1, 2);
+        pair(x, 4, 8);
+        x.op(kind);
+        boolean cat = kind == CountingRegex.CAT;
+        fed(x, CountingRegex.WHOLE, "0123", cat ? "0001" : "0100");
+        fed(x, CountingRegex.WHOLE, "013", "0" + (cat ? "00" : "10"));
+        fed(x, CountingRegex.WHOLE, "23", cat ? "00" : "01");
+        fed(x, CountingRegex.WHOLE, "3", "0");
+        x.clear();
+        pair(x, 1, 2);
+        pair(x, 4, 8);
+        x.op(kind);
+        x.op(CountingRegex.PLUS);
+        fed(x, CountingRegex.WHOLE, "01230123", cat ? "00010001" : "01010101");
+        fed(x, CountingRegex.WHOLE, "0101", cat ? "0000" : "0101");
+        fed(x, CountingRegex.WHOLE, "01231", cat ? "00010" : "01010");
+    }
+
+    private static void compoundOptions() {
+        CHECK.at("(0 1)? (2 3)?");
+        CountingRegex x = new CountingRegex(12, 100);
+        pair(x, 1, 2);
+        x.op(CountingRegex.OPT);
+        pair(x, 4, 8);
+        x.op(CountingRegex.OPT);
+        x.op(CountingRegex.CAT);
+        fed(x, CountingRegex.WHOLE, "0123", "0101");
+        fed(x, CountingRegex.WHOLE, "23", "01");
+        fed(x, CountingRegex.WHOLE, "3", "0");
+        fed(x, CountingRegex.WHOLE, "0101", "0100");
+        fed(x, CountingRegex.WHOLE, "2301", "0100");
+    }
+
+    private static void pair(CountingRegex x, int leftMask, int rightMask) {
+        x.leaf(leftMask, 1, 1);
+        x.leaf(rightMask, 1, 1);
+        x.op(CountingRegex.CAT);
     }
 
     private static void nested() {
