@@ -80,7 +80,10 @@ public final class OpEdgesTest {
         }
     }
 
-    /** ".. or STAR, PLUS or OPT with none: TOO_FEW": with 0, but not with 1. */
+    /**
+     * ".. or STAR, PLUS or OPT with none: TOO_FEW": with 0, but not with 1. An empty stack has
+     * all of its room free, so this reason and the next one never apply at once.
+     */
     private static void wrappingTooFew() {
         CHECK.at("too few to wrap");
         State cleared = new State("a cleared object", 4, 8, x -> {
