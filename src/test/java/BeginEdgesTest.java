@@ -56,6 +56,7 @@ public final class BeginEdgesTest {
             }
         }
         for (int mode = CountingRegex.WHOLE; mode <= CountingRegex.SEARCH; mode++) {
+            refused(State.compoundItems(), mode, CountingRegex.NOT_ONE);
             refused(State.noLeafLeft(), mode, CountingRegex.NOT_ONE);
             refused(State.noRoomLeft(), mode, CountingRegex.NOT_ONE);
             refused(new State("an object cleared of its input", 4, 20, x -> {

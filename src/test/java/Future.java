@@ -14,9 +14,10 @@ final class Future {
     static final List<Future> ALL = List.of(
             new Future("fed on", feed(0, 1), feed(1, 1), feed(0, 3), feed(2, 16), feed(0, 1), feed(1, 2)),
             new Future("begun again", begin(1), feed(0, 2), feed(1, 1), feed(0, 1), begin(2), feed(0, 3),
-                    feed(1, 2), feed(0, 1), begin(1), feed(0, 1)),
+                    feed(1, 2), feed(0, 1), begin(1), feed(0, 4)),
             new Future("built on", leaf(3, 1, 2), op(1), op(5), leaf(1, 0, -1), op(2), op(1), op(1), op(3),
                     begin(2), feed(0, 2), feed(1, 2), feed(0, 16)),
+            new Future("given two choices", leaf(3, 1, 2), leaf(1, 1, 1), op(2), begin(1), feed(0, 3)),
             new Future("joined to one", op(1), op(1), op(2), op(1), op(1), op(1), op(1), op(1), op(1), op(1),
                     op(1), begin(1), feed(0, 2), feed(1, 2), feed(2, 2), feed(0, 1), feed(1, 1)),
             new Future("filled up", leaf(1, 2, 2), leaf(3, 1, 1), op(4), leaf(7, 0, 1), op(3), leaf(1, 1, 1),

@@ -100,6 +100,7 @@ public final class LeafEdgesTest {
         for (int[] given : BAD) {
             refused(State.items(0), given, CountingRegex.BAD);
             refused(State.items(2), given, CountingRegex.BAD);
+            refused(State.compoundItems(), given, CountingRegex.BAD);
         }
         CHECK.at("bad for several reasons");
         for (int[] given : WORSE) {

@@ -71,6 +71,7 @@ public final class OpEdgesTest {
         for (int kind : JOINING) {
             refused(State.items(0), kind, CountingRegex.TOO_FEW);
             refused(State.items(1), kind, CountingRegex.TOO_FEW);
+            refused(State.emptyItem(), kind, CountingRegex.TOO_FEW);
             // One item is too few, however many leaves it has and however little room is free.
             refused(State.nothingLeft(), kind, CountingRegex.TOO_FEW);
             refused(roomless, kind, CountingRegex.TOO_FEW);

@@ -32,6 +32,25 @@ record State(String name, int maxLeaves, int cells, Consumer<CountingRegex> call
         });
     }
 
+    /** (0 [01]{1,2})* and ([01]{0,2} 0)?, so that each item has the empty trace and leaves that follow others. */
+    static State compoundItems() {
+        return new State("two items of two leaves", 12, 60, x -> {
+            x.leaf(1, 1, 1);
+            x.leaf(3, 1, 2);
+            x.op(CountingRegex.CAT);
+            x.op(CountingRegex.STAR);
+            x.leaf(3, 0, 2);
+            x.leaf(1, 1, 1);
+            x.op(CountingRegex.CAT);
+            x.op(CountingRegex.OPT);
+        });
+    }
+
+    /** One item that has the empty trace. */
+    static State emptyItem() {
+        return new State("one item with the empty trace", 12, 60, x -> x.leaf(3, 0, 2));
+    }
+
     /** Two items, and no further leaf may be made although there is room. */
     static State noLeafLeft() {
         return new State("two items and no leaf left", 2, 20, x -> {
@@ -94,9 +113,9 @@ record State(String name, int maxLeaves, int cells, Consumer<CountingRegex> call
         });
     }
 
-    /** (0{1,3} [01]{2,})*, which leaves room and leaves. */
+    /** (0{2,3} [01]{2,})*, which leaves room and leaves. */
     private static void beginExpression(CountingRegex x, int mode) {
-        x.leaf(1, 1, 3);
+        x.leaf(1, 2, 3);
         x.leaf(3, 2, CountingRegex.UNBOUNDED);
         x.op(CountingRegex.CAT);
         x.op(CountingRegex.STAR);
@@ -105,7 +124,8 @@ record State(String name, int maxLeaves, int cells, Consumer<CountingRegex> call
 
     /** A state of each sort in phase BUILDING. */
     static List<State> building() {
-        return List.of(items(0), items(1), items(2), items(3), items(12), noLeafLeft(), noRoomLeft(), nothingLeft());
+        return List.of(items(0), items(1), items(2), items(3), items(12), emptyItem(), compoundItems(),
+                noLeafLeft(), noRoomLeft(), nothingLeft());
     }
 
     /** A state of each sort in the phases WHOLE and SEARCH. */
