@@ -36,6 +36,9 @@ public final class ReadmeTest {
     private static List<String> block(List<String> text, String fence) {
         int from = text.indexOf(fence);
         CHECK.due("there is a block " + fence, from >= 0, true);
+        if (from < 0) {
+            return List.of();
+        }
         CHECK.due("there is only one block " + fence, text.lastIndexOf(fence) == from, true);
         List<String> rest = text.subList(from + 1, text.size());
         int length = rest.indexOf("```");
@@ -53,8 +56,8 @@ public final class ReadmeTest {
         for (String command : commands) {
             Path output = root.resolve("output");
             int code = new ProcessBuilder(command.split(" "))
-                    .directory(root.toFile()).redirectErrorStream(true).redirectOutput(output.toFile())
-                    .start().waitFor();
+                    .directory(root.toFile()).redirectError(ProcessBuilder.Redirect.INHERIT)
+                    .redirectOutput(output.toFile()).start().waitFor();
             CHECK.due("exit code of " + command, code, 0);
             printed.addAll(Files.readAllLines(output));
         }
@@ -67,14 +70,12 @@ public final class ReadmeTest {
             if (!line.contains("System.out")) {
                 continue;
             }
+            String got = next < printed.size() ? printed.get(next) : "nothing";
+            next++;
             Matcher told = PRINTED.matcher(line.strip());
             if (!told.matches()) {
                 CHECK.report("no answer is told in: " + line.strip());
-                continue;
-            }
-            String got = next < printed.size() ? printed.get(next) : "nothing";
-            next++;
-            if (!got.equals(told.group(2))) {
+            } else if (!got.equals(told.group(2))) {
                 CHECK.report(told.group(1) + " printed " + got + ", README.md says " + told.group(2));
             }
         }
