@@ -34,8 +34,9 @@ import javax.tools.StandardJavaFileManager;
 import javax.tools.ToolProvider;
 
 /**
- * ../shared/LANGUAGE.md, as far as the syntax tree of the class shows it. Who may see a member is
- * left to FaceTest; that no call throws and that every loop ends is left to the reader.
+ * What the syntax tree of the class shows of ../shared/LANGUAGE.md. Who may see a member is left to
+ * FaceTest. Left to the reader are the names that arrays go by and whether they are compared (rule 4),
+ * that no call throws (rule 7) and that every loop ends (rule 8).
  */
 public final class LanguageTest {
     private static final Check CHECK = new Check();
